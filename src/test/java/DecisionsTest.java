@@ -111,6 +111,22 @@ public final class DecisionsTest {
         x.setTide(3, -1);
         reason(0, 2, 180);
         longStay();
+        hourBeforeArrival();
+    }
+
+    private static void hourBeforeArrival() {
+        x = new FerryTimetable();
+        x.addShip(250, 1, 10, 50);
+        x.addBerth(300, 1);
+        x.addCrossing(0, 0, 121, 179);
+        x.setTide(2, -1);
+        x.setTide(3, -1);
+        reason(0, 2, 121);
+        x.setTide(3, 0);
+        reason(0, 0, Check.NONE);
+        x.setTide(2, 0);
+        x.setTide(3, -1);
+        reason(0, 0, Check.NONE);
     }
 
     private static void longStay() {
@@ -260,6 +276,18 @@ public final class DecisionsTest {
         x.setMargin(41);
         connection(2, 2);
         Check.due("crossing(0, 4)", 10, x.crossing(0, 4));
+        // another ship at the same berth, with less draft and a lower wind limit
+        x.addShip(100, 1, 10, 20);
+        x.addCrossing(1, 0, 210, 220);
+        x.addConnection(1, 220, 60, 1);
+        x.setWind(3, 20);
+        connection(3, 1);
+        x.setWind(3, 21);
+        connection(3, 2);
+        x.setWind(3, 20);
+        connection(3, 1);
+        x.setBerth(0, 141, 1);
+        connection(3, 2);
     }
 
     private static void delayedEnd() {

@@ -15,6 +15,7 @@ public final class LoadingTest {
         leaves();
         load();
         bestBerth();
+        presentData();
         Check.finish();
     }
 
@@ -293,6 +294,42 @@ public final class LoadingTest {
         Check.due("loadBits()", 0, x.loadBits());
         x.addVehicle(0, 11, 0);
         Check.due("loadBits() of a full ship", Float.floatToIntBits(1.0f), x.loadBits());
+    }
+
+    /** Each call is made just after a change, while what was found before it is still there. */
+    private static void presentData() {
+        Check.part("All results follow the present data");
+        x = new FerryTimetable();
+        x.addShip(100, 1, 20, 50);
+        x.addBerth(300, 1);
+        x.addCrossing(0, 0, 0, 60);
+        x.addVehicle(0, 8, 2);
+        Check.due("crossing(0, 9)", 1, x.crossing(0, 9));
+        x.addVehicle(0, 8, 1);
+        Check.due("crossing(0, 9)", 2, x.crossing(0, 9));
+        Check.due("isOrderly()", 1, x.isOrderly());
+        x.setBerth(0, 300, 2);
+        Check.due("isOrderly()", 1, x.isOrderly());
+        x.setWind(1, 51);
+        Check.due("crossing(0, 8)", 0, x.crossing(0, 8));
+        x.setWind(1, 50);
+        Check.due("laneVehicle(0, 0, 0)", 0, x.laneVehicle(0, 0, 0));
+        x.setWind(1, 51);
+        Check.due("leaves(0, 0)", Check.NONE, x.leaves(0, 0));
+        x.setWind(1, 50);
+        Check.due("leaves(0, 0)", 0, x.leaves(0, 0));
+        x.setWind(1, 51);
+        Check.due("laneVehicle(0, 0, 0)", Check.NONE, x.laneVehicle(0, 0, 0));
+        Check.due("laneLeft(0, 0)", Check.STATE, x.laneLeft(0, 0));
+        x.setWind(1, 50);
+        Check.due("laneLeft(0, 0)", 12, x.laneLeft(0, 0));
+        x.setBerth(0, 300, 1);
+        Check.due("laneLeft(0, 0)", 4, x.laneLeft(0, 0));
+        Check.due("sailingIf(200)", 1, x.sailingIf(200));
+        x.setBerth(0, 200, 1);
+        Check.due("sailingIf(200), which leaves nothing behind", 0, x.sailingIf(200));
+        Check.due("crossing(0, 5)", 0, x.crossing(0, 5));
+        Check.due("vehicle(1, 5)", 1, x.vehicle(1, 5));
     }
 
     private static void bestBerth() {
