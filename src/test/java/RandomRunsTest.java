@@ -93,6 +93,11 @@ public final class RandomRunsTest {
         return random.nextInt(60) == 0 ? WILD[random.nextInt(WILD.length)] : low + random.nextInt(high - low + 1);
     }
 
+    /** A number of an element, mostly of one that is there. */
+    private int some(int what) {
+        return in(0, Math.max(0, due.count(what) - (random.nextInt(20) == 0 ? 0 : 1)));
+    }
+
     private void play() {
         for (int i = 0; i < 1 + random.nextInt(4); i++) {
             addShip();
@@ -123,21 +128,21 @@ public final class RandomRunsTest {
     }
 
     private void addShip() {
-        call("addShip", in(100, 300), in(1, 4), longLanes ? in(40, 200) : in(10, 40), in(20, 99));
+        call("addShip", in(50, 240), in(1, 4), longLanes ? in(40, 200) : in(10, 40), in(20, 99));
     }
 
     private void addCrossing() {
         int arrival = random.nextInt(span);
         int departure = random.nextInt(4) == 0 ? (arrival / 60 + 1) * 60 : arrival + in(1, random.nextInt(3) == 0 ? 301 : 90);
-        call("addCrossing", in(0, 3), in(0, 2), arrival, Math.min(departure, 2801));
+        call("addCrossing", some(0), some(1), arrival, Math.min(departure, 2801));
     }
 
     private void addVehicle() {
-        call("addVehicle", in(0, Math.max(1, due.count(2))), in(3, random.nextBoolean() ? 12 : 30), in(0, 5));
+        call("addVehicle", some(2), in(3, random.nextBoolean() ? 12 : 30), in(0, 5));
     }
 
     private void addConnection() {
-        int crossing = in(0, Math.max(1, due.count(2)));
+        int crossing = some(2);
         int departure = Math.max(30, due.crossing(crossing, 3));
         call("addConnection", crossing, departure - 20 + random.nextInt(60), in(0, 60), in(1, 999));
     }
@@ -145,9 +150,9 @@ public final class RandomRunsTest {
     private void setWeather() {
         int hours = span / 60 + 1;
         if (random.nextBoolean()) {
-            call("setTide", in(0, hours), in(-150 * roughness, 100));
+            call("setTide", in(0, hours), in(-60 * roughness, 100));
         } else {
-            call("setWind", in(0, hours), in(0, 30 * roughness));
+            call("setWind", in(0, hours), in(0, 25 * roughness));
         }
     }
 
@@ -171,21 +176,31 @@ public final class RandomRunsTest {
     }
 
     private void change() {
-        switch (random.nextInt(16)) {
+        switch (random.nextInt(20)) {
+            case 16, 17 -> addCrossing();
+            case 18 -> addVehicle();
+            case 19 -> addConnection();
             case 0 -> addShip();
             case 1 -> call("addBerth", in(250, 500), in(1, 2));
             case 2, 3 -> addCrossing();
             case 4 -> addVehicle();
             case 5 -> addConnection();
-            case 6 -> call("removeCrossing", in(0, 12));
-            case 7 -> call("setBerth", in(0, 2), in(150, 500), in(1, 2));
+            case 6 -> call("removeCrossing", in(0, 20));
+            case 7 -> call("setBerth", some(1), in(150, 500), in(1, 2));
             case 8 -> setWeather();
             case 9 -> call("setMargin", in(0, 200));
             case 10, 11 -> readText();
-            case 12 -> call("undo");
+            case 12 -> undoSome();
             case 13 -> call("takeOut", in(0, 2), in(0, 2));
-            case 14 -> call("layDown", in(0, 2), in(0, 2), in(0, 1), in(0, 3));
+            case 14 -> call("layDown", in(0, 2), in(0, 2), in(0, 1), in(0, 2));
             default -> call(random.nextInt(3) == 0 ? "restore" : "save");
+        }
+    }
+
+    private void undoSome() {
+        int times = random.nextInt(4) == 0 ? 1 + random.nextInt(7) : 1;
+        for (int i = 0; i < times; i++) {
+            call("undo");
         }
     }
 
@@ -204,7 +219,7 @@ public final class RandomRunsTest {
                 default -> text.insert(at, signs.charAt(random.nextInt(signs.length())));
             }
         }
-        int pack = 1 + random.nextInt(4);
+        int pack = random.nextInt(3) == 0 ? 1 + random.nextInt(4) : 4;
         for (int i = 0; i < text.length(); i += pack) {
             call("append", Check.packed(text.substring(i, Math.min(i + pack, text.length()))) << 8 * random.nextInt(5 - pack));
         }
@@ -219,9 +234,9 @@ public final class RandomRunsTest {
         switch (random.nextInt(4)) {
             case 0:
                 int arrival = random.nextInt(span);
-                return "c" + random.nextInt(3) + "," + random.nextInt(2) + "," + arrival + "," + (arrival + random.nextInt(120));
+                return "c" + some(0) % 10000 + "," + some(1) % 10000 + "," + arrival + "," + (arrival + random.nextInt(120));
             case 1:
-                return "v" + random.nextInt(6) + "," + (2 + random.nextInt(20)) + ",0" + random.nextInt(6);
+                return "v" + some(2) % 10000 + "," + (2 + random.nextInt(20)) + ",0" + random.nextInt(6);
             case 2:
                 return "t" + random.nextInt(49) + "=" + (random.nextInt(400) - 300);
             default:
@@ -232,26 +247,26 @@ public final class RandomRunsTest {
     private void ask() {
         switch (random.nextInt(25)) {
             case 0 -> call("count", in(0, 6));
-            case 1 -> call("ship", in(0, 3), in(0, 4));
-            case 2 -> call("berth", in(0, 2), in(0, 2));
-            case 3, 4 -> call("crossing", in(0, 11), in(0, 9));
-            case 5 -> call("decided", in(0, 11));
-            case 6, 7 -> call("vehicle", in(0, 23), in(0, 6));
-            case 8 -> call("connection", in(0, 7), in(0, 4));
+            case 1 -> call("ship", some(0), in(0, 4));
+            case 2 -> call("berth", some(1), in(0, 2));
+            case 3, 4 -> call("crossing", some(2), in(0, 9));
+            case 5 -> call("decided", some(2));
+            case 6, 7 -> call("vehicle", some(3), in(0, 6));
+            case 8 -> call("connection", some(4), in(0, 4));
             case 9 -> call("tide", in(0, 48));
             case 10 -> call("wind", in(0, 47));
             case 11 -> call("height", in(0, span));
             case 12 -> call("heightBits", in(0, span));
-            case 13 -> call("water", in(0, 2), in(0, span));
-            case 14 -> call("firstTime", in(0, 2), in(0, 3), in(0, span));
-            case 15 -> call("laneLeft", in(0, 11), in(0, 3));
-            case 16 -> call("laneVehicle", in(0, 11), in(0, 3), in(0, 3));
-            case 17, 18 -> call("leaves", in(0, 11), in(0, 8));
+            case 13 -> call("water", some(1), in(0, span));
+            case 14 -> call("firstTime", some(1), some(0), in(0, span));
+            case 15 -> call("laneLeft", some(2), in(0, 3));
+            case 16 -> call("laneVehicle", some(2), in(0, 3), in(0, 3));
+            case 17, 18 -> call("leaves", some(2), in(0, 8));
             case 19 -> call("isOrderly");
             case 20 -> call("account", in(0, 9));
             case 21 -> call("loadBits");
             case 22 -> call("sailingIf", in(0, 200));
-            case 23 -> call("bestBerth", in(0, 11));
+            case 23 -> call("bestBerth", some(2));
             default -> call("lying", in(0, 2), in(0, 2));
         }
     }
