@@ -98,23 +98,28 @@ public final class RandomRunsTest {
         return in(0, Math.max(0, due.count(what) - (random.nextInt(20) == 0 ? 0 : 1)));
     }
 
+    /** In every third run as many as there may be, and one more. */
+    private int howMany(int least, int most) {
+        return run % 3 == 0 ? most + 1 : least + random.nextInt(most - least + 1);
+    }
+
     private void play() {
-        for (int i = 0; i < 1 + random.nextInt(4); i++) {
+        for (int i = howMany(1, 4); i > 0; i--) {
             addShip();
         }
-        for (int i = 0; i < 1 + random.nextInt(3); i++) {
+        for (int i = howMany(1, 3); i > 0; i--) {
             call("addBerth", in(250, 500), in(1, 2));
         }
         for (int i = 0; i < roughness * 12; i++) {
             setWeather();
         }
-        for (int i = 0; i < 3 + random.nextInt(10); i++) {
+        for (int i = howMany(3, 12); i > 0; i--) {
             addCrossing();
         }
-        for (int i = 0; i < random.nextInt(26); i++) {
+        for (int i = howMany(0, 24); i > 0; i--) {
             addVehicle();
         }
-        for (int i = 0; i < random.nextInt(9); i++) {
+        for (int i = howMany(0, 8); i > 0; i--) {
             addConnection();
         }
         tellAll();
