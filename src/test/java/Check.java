@@ -18,6 +18,15 @@ final class Check {
         part = name;
     }
 
+    /** Names the words of the document that the next answers are about; SentencesTest looks for them there. */
+    static void sentence(String section, String words) {
+        part = section + ", \"" + words + "\"";
+    }
+
+    static boolean isError(int answer) {
+        return answer >= UNLIKE && answer <= NO_SUCH;
+    }
+
     static void due(String call, int want, int got) {
         asked++;
         if (got != want) {

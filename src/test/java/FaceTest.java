@@ -61,7 +61,7 @@ public final class FaceTest {
     }
 
     private static void constants(Class<?> face) throws ReflectiveOperationException {
-        Check.part("The constants");
+        Check.sentence("Error codes", "The constants: `NO_SUCH_ELEMENT = -10001`");
         int value = -10001;
         Set<String> names = Set.of(CONSTANTS);
         for (String name : CONSTANTS) {

@@ -298,7 +298,7 @@ public final class LoadingTest {
 
     /** Each call is made just after a change, while what was found before it is still there. */
     private static void presentData() {
-        Check.part("All results follow the present data");
+        Check.sentence("Time", "All results follow the present data: nothing is decided before it is asked for.");
         x = new FerryTimetable();
         x.addShip(100, 1, 20, 50);
         x.addBerth(300, 1);

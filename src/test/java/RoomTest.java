@@ -3,7 +3,9 @@ import java.lang.management.ManagementFactory;
 
 /** All calls of a run live in one room: only the constructor makes objects, and few. */
 public final class RoomTest {
-    private static final int ROUNDS = 2000;
+    private static final int OBJECTS = 500;
+    // each of them is called at most 512 times in all
+    private static final int ROUNDS = 3;
     private static final long MOST_BYTES_OF_AN_OBJECT = 40_000;
     private static final long MOST_BYTES_OF_ALL_CALLS = 100_000;
 
@@ -16,12 +18,17 @@ public final class RoomTest {
             System.out.println("the bytes cannot be counted here");
             return;
         }
-        FerryTimetable x = fullPort();
-        callAll(x);
+        callAll(fullPort());
+        FerryTimetable[] called = new FerryTimetable[OBJECTS];
+        for (int i = 0; i < called.length; i++) {
+            called[i] = fullPort();
+        }
         long id = Thread.currentThread().getId();
         long before = bean.getThreadAllocatedBytes(id);
-        for (int i = 0; i < ROUNDS; i++) {
-            callAll(x);
+        for (FerryTimetable x : called) {
+            for (int i = 0; i < ROUNDS; i++) {
+                callAll(x);
+            }
         }
         long calls = bean.getThreadAllocatedBytes(id) - before;
         FerryTimetable[] made = new FerryTimetable[100];
@@ -30,7 +37,7 @@ public final class RoomTest {
             made[i] = new FerryTimetable();
         }
         long each = (bean.getThreadAllocatedBytes(id) - before) / made.length;
-        System.out.println(calls + " bytes in " + ROUNDS + " rounds of all calls, " + each + " bytes an object");
+        System.out.println(calls + " bytes in " + OBJECTS * ROUNDS + " rounds of all calls, " + each + " bytes an object");
         Check.holds("the calls make no objects", calls < MOST_BYTES_OF_ALL_CALLS);
         Check.holds("an object is small", each < MOST_BYTES_OF_AN_OBJECT);
         Check.finish();

@@ -48,10 +48,10 @@ public final class TideTest {
     /** Many pairs of heights, and every minute between them. */
     private static void allBits() {
         Check.part("Promise 26");
-        FerryTimetable x = new FerryTimetable();
         int[] heights = {-999, -998, -500, -61, -60, -59, -3, -1, 0, 1, 2, 7, 59, 60, 61, 512, 997, 998, 999};
         for (int a : heights) {
             for (int b : heights) {
+                FerryTimetable x = new FerryTimetable();
                 x.setTide(20, a);
                 x.setTide(21, b);
                 for (int m = 0; m < 60; m++) {
