@@ -1031,7 +1031,8 @@ public final class FerryTimetable {
         private void loadOrShift(Port port, Decisions decisions, int place) {
             int crossing = decisions.order[place];
             int next = decisions.nextSailing(port, place);
-            for (int i = 0; i < waiting[crossing]; i++) {
+            int queued = waiting[crossing];
+            for (int i = 0; i < queued; i++) {
                 int vehicle = queue[crossing * MOST_VEHICLES + i];
                 int lane = decisions.sails(crossing) ? findLane(port, crossing, vehicle) : NONE;
                 if (lane != NONE) {
@@ -1115,7 +1116,7 @@ public final class FerryTimetable {
             while (gone[lane] < inLane && out < MOST_VEHICLES) {
                 int place = port.rampsOf(crossing) == 1 ? inLane - 1 - gone[lane] : gone[lane];
                 int vehicle = standingAt(port, crossing, lane, place);
-                if (port.vehicles.at(vehicle, Port.LEAVES_AT) != call) {
+                if (vehicle == NONE || port.vehicles.at(vehicle, Port.LEAVES_AT) != call) {
                     break;
                 }
                 leaveOrder[out] = vehicle;

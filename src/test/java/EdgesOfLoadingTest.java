@@ -368,6 +368,11 @@ public final class EdgesOfLoadingTest {
         ship(1, 10, 1).due(1, "isOrderly").call("addVehicle", 0, 10, 0).due(1, "isOrderly").call("setWind", 1, 99).due(1, "isOrderly");
         Run.rich().due(1, "isOrderly").call("setBerth", 0, 300, 2).due(1, "isOrderly").call("setBerth", 1, 320, 1).due(1, "isOrderly");
         Run.full().due(1, "isOrderly");
+        // nothing was decided before it is asked for, neither the order of the crossings nor what sails
+        Run first = ship(1, 100, 1).call("addCrossing", 0, 0, 70, 80).call("addVehicle", 0, 10, 4).call("addVehicle", 1, 10, 3);
+        first.again().due(1, "isOrderly");
+        first.again().call("account", 4).due(1, "removeCrossing", 0).due(1, "isOrderly");
+        first.again().call("account", 4).call("addCrossing", 0, 0, 60, 70).call("addVehicle", 2, 10, 2).due(1, "isOrderly");
         Check.sentence("Promise 32", "all vehicles of it do leave, and no lane is overfull.");
         // lanes that are just full are not overfull
         Run run = ship(4, 30, 2);
@@ -429,6 +434,14 @@ public final class EdgesOfLoadingTest {
         // one vehicle more is enough
         Run more = ship(1, 20, 1).call("addBerth", 300, 2).call("addVehicle", 0, 5, 0).due(0, "bestBerth", 0);
         more.call("addVehicle", 0, 5, 1).due(1, "bestBerth", 0);
+        // crossing 1 never sails: the only berth and the only ship are taken, and there is no berth 1
+        Run only = ship(1, 20, 1).call("addCrossing", 0, 0, 0, 70).call("addVehicle", 1, 5, 0);
+        for (int hour = 0; hour <= 2; hour++) {
+            only.call("setTide", hour, 999);
+        }
+        only.due(0, "bestBerth", 1).due(0, "bestBerth", 0);
+        Run oneBerth = only.again().call("addShip", 60, 1, 20, 50).call("addCrossing", 1, 0, 0, 80).call("addVehicle", 2, 5, 0);
+        oneBerth.due(0, "bestBerth", 2).due(0, "bestBerth", 0).due(0, "account", 4);
         Check.sentence("Promise 36", "the most vehicles would be aboard of all crossings together");
         // at berth 0 crossing 0 would keep out crossing 1, with its two vehicles
         Run other = new Run().call("addShip", 100, 1, 20, 50).call("addShip", 100, 1, 20, 50).call("addBerth", 300, 1).call("addBerth", 300, 1);

@@ -148,6 +148,9 @@ public final class EdgesOfTextsTest {
         Run run = Run.rich().call("read").text("c0,0,900,950;v4,3,0;c1,1,900,960;v5,4,1;v4,5,2").due(5, "read");
         run.due(0, "crossing", 4, 0).due(1, "crossing", 5, 0).due(4, "vehicle", 7, 0).due(5, "vehicle", 8, 0).due(5, "vehicle", 9, 1);
         Run first = new Run().text("w0=1").due(1, "read").due(1, "wind", 0);
+        // what no entry names stays
+        first.text("t1=1;w1=1;t47=7").due(3, "read").due(1, "wind", 0).due(0, "tide", 0).due(50, "count", 6).call("setTide", 0, 8);
+        first.text("w1=2").due(1, "read").due(8, "tide", 0).due(1, "wind", 0).due(7, "tide", 47);
         first.text("t0=1;t1=2;t2=3;t3=4;t4=5;t5=6;t6=7;t7=8;t8=9;w0=2;w0=3;w0=4").due(12, "read").due(4, "wind", 0).due(9, "tide", 8);
     }
 
